@@ -24,6 +24,7 @@ public final class TreatyRouter {
     private static final int LAST_YEAR = 199;
     private static final int YEARS_AHEAD = 20;
     private static final int USUAL_YEAR = 50;
+    private static final int ENOUGH_HALVINGS = 20;
     private static final int THOUSAND = 1000;
     private static final int UNTAXED_SHARE = 25;
 
@@ -53,6 +54,7 @@ public final class TreatyRouter {
     private final Log imagedLog = new Log();
     private final StringBuilder told = new StringBuilder();
     private final int[] refused = new int[REASONS];
+    private final int[] drawnStep = new int[Script.PARTS];
     private final State now;
     private final State scratch;
     private final State imaged;
@@ -200,6 +202,7 @@ public final class TreatyRouter {
         if (what < 0 || what > 1) {
             return NONE;
         }
+        finder.findTreaties(now);
         finder.judgeHops(now, sort, owner);
         int at = from * MOST_FIRMS + to;
         if (finder.linkAt[at] == NONE) {
@@ -298,9 +301,9 @@ public final class TreatyRouter {
             case 1:
                 return finder.best.hops;
             case 2:
-                return finder.best.sum(Way.HELD);
+                return finder.best.withheld;
             default:
-                return finder.best.sum(Way.DUE);
+                return finder.best.duePaid();
         }
     }
 
@@ -339,7 +342,7 @@ public final class TreatyRouter {
             return NONE;
         }
         if (what == 0) {
-            return finder.best.sum(Way.HELD);
+            return finder.best.withheld;
         }
         return what == 1 ? finder.best.hops : finder.best.arrives;
     }
@@ -348,6 +351,7 @@ public final class TreatyRouter {
         if (!isAsked(sort, from, to, amount)) {
             return NONE;
         }
+        finder.findTreaties(now);
         finder.judgeHops(now, sort, to);
         int at = from * MOST_FIRMS + to;
         return finder.linkAt[at] == NONE ? NONE : amount - amount * finder.rateAt[at] / THOUSAND;
@@ -465,7 +469,7 @@ public final class TreatyRouter {
         // Of one more never less ARRIVES, as each cut takes one more at most; and never more than was paid.
         int low = sum;
         int high = MOST_AMOUNT;
-        while (low < high) {
+        for (int halved = 0; low < high && halved < ENOUGH_HALVINGS; halved++) {
             int middle = low + (high - low) / 2;
             if (arrivesIn(now, sort, from, to, middle) >= sum) {
                 high = middle;
@@ -517,12 +521,12 @@ public final class TreatyRouter {
         return actNow(act, a, b, c);
     }
 
-    /** An ACT that no hand does: STATUS does not count it where it can't be. */
-    private boolean actIfItCanBe(int act, int a, int b, int c, int d) {
-        if (acts.reasonAgainst(now, act, a, b, c, d) != NONE) {
+    /** A STEP, the row's at this place, as an ACT that no hand does: STATUS does not count it where it can't be. */
+    private boolean actIfItCanBe(int[] row, int at) {
+        if (acts.reasonAgainst(now, row[at], row[at + 1], row[at + 2], row[at + 3], row[at + 4]) != NONE) {
             return false;
         }
-        actNow(act, a, b, c);
+        actNow(row[at], row[at + 1], row[at + 2], row[at + 3]);
         return true;
     }
 
@@ -539,28 +543,35 @@ public final class TreatyRouter {
         }
         drawn = seed;
         for (int i = 0; i < n; i++) {
-            actDrawn(draw(8));
+            drawStep(draw(8));
+            actIfItCanBe(drawnStep, 0);
         }
         return now.row[State.YEAR];
     }
 
-    private void actDrawn(int kind) {
+    private void drawStep(int kind) {
         if (kind <= 3) {
-            int sort = draw(2);
-            int from = draw(book.firms);
-            int to = draw(book.firms);
-            actIfItCanBe(ACT_PAY, sort, from, to, draw(1000) + 1);
-        } else if (kind == 4) {
-            actIfItCanBe(ACT_PASS, draw(5) + 1, NONE, NONE, NONE);
-        } else if (kind == 5) {
-            int firm = draw(book.firms);
-            actIfItCanBe(ACT_STAFF, firm, draw(100), NONE, NONE);
-        } else {
-            int firm = draw(book.firms);
-            int other = draw(book.firms);
-            int share = kind == 6 ? draw(101) : NONE;
-            actIfItCanBe(kind == 6 ? ACT_OWN : ACT_LEND, firm, other, share, NONE);
+            drawnStep[0] = ACT_PAY;
+            drawnStep[1] = draw(2);
+            drawnStep[2] = draw(book.firms);
+            drawnStep[3] = draw(book.firms);
+            drawnStep[4] = draw(1000) + 1;
+            return;
         }
+        if (kind == 4) {
+            drawnStep[0] = ACT_PASS;
+            drawnStep[1] = draw(5) + 1;
+            return;
+        }
+        drawnStep[1] = draw(book.firms);
+        if (kind == 5) {
+            drawnStep[0] = ACT_STAFF;
+            drawnStep[2] = draw(100);
+            return;
+        }
+        drawnStep[0] = kind == 6 ? ACT_OWN : ACT_LEND;
+        drawnStep[2] = draw(book.firms);
+        drawnStep[3] = kind == 6 ? draw(101) : NONE;
     }
 
     private int draw(int j) {
@@ -629,8 +640,7 @@ public final class TreatyRouter {
         }
         Script s = scripts[script];
         for (int i = 0; i < s.steps; i++) {
-            int at = i * Script.PARTS;
-            if (!actIfItCanBe(s.row[at], s.row[at + 1], s.row[at + 2], s.row[at + 3], s.row[at + 4])) {
+            if (!actIfItCanBe(s.row, i * Script.PARTS)) {
                 return i;
             }
         }
@@ -1210,10 +1220,10 @@ public final class TreatyRouter {
         int arrives = 0;
         int withheld = 0;
 
-        int sum(int column) {
+        int duePaid() {
             int sum = 0;
             for (int i = 0; i < hops; i++) {
-                sum += row[column + i];
+                sum += row[DUE + i];
             }
             return sum;
         }
@@ -1275,8 +1285,9 @@ public final class TreatyRouter {
             this.to = to;
             ways = 0;
             tried.from = from;
+            findTreaties(s);
             judgeHops(s, sort, to);
-            goOn(s, from, amount, 0, shunned | 1 << from);
+            goOn(s, from, amount, 0, shunned | 1 << from, 0);
             return ways > 0;
         }
 
@@ -1288,9 +1299,8 @@ public final class TreatyRouter {
             return found;
         }
 
-        /** The OWNER is the same on all WAYS, so each HOP is judged once, ahead of them. */
+        /** By the TREATIES found; the OWNER is the same on all WAYS, so each HOP is judged once, ahead of them. */
         void judgeHops(State s, int sort, int owner) {
-            findTreaties(s);
             for (int i = 0; i < linkAt.length; i++) {
                 linkAt[i] = NONE;
             }
@@ -1304,7 +1314,7 @@ public final class TreatyRouter {
             }
         }
 
-        private void findTreaties(State s) {
+        void findTreaties(State s) {
             for (int land = 0; land < s.book.lands; land++) {
                 for (int other = 0; other < land; other++) {
                     boolean lapsed = land == s.lapsedLand && other == s.lapsedOther
@@ -1363,8 +1373,8 @@ public final class TreatyRouter {
             return s.book.treaties[(sort == INTEREST ? Book.LOW_INTEREST : Book.LOW) + t];
         }
 
-        /** Tries all HOPS from a FIRM as the i-th of a WAY; FIRMS in their order, so of like WAYS the lowest comes first. */
-        private void goOn(State s, int firm, int paid, int i, int touched) {
+        /** Tries all HOPS from a FIRM as a WAY's i-th, FIRMS in their order, so of like WAYS the lowest comes first. */
+        private void goOn(State s, int firm, int paid, int i, int touched, int withheld) {
             if (i >= MOST_HOPS) {
                 return;
             }
@@ -1378,10 +1388,11 @@ public final class TreatyRouter {
                     tried.row[Way.PAID + i] = paid;
                     tried.row[Way.HELD + i] = held;
                     if (next == to) {
-                        arrive(s, i, paid - held);
+                        arrive(s, i, paid - held, withheld + held);
                     } else {
                         taxStop(s, i, linkAt[at]);
-                        goOn(s, next, paid - held - tried.row[Way.DUE + i], i + 1, touched | 1 << next);
+                        int rest = paid - held - tried.row[Way.DUE + i];
+                        goOn(s, next, rest, i + 1, touched | 1 << next, withheld + held);
                     }
                 }
             }
@@ -1403,20 +1414,17 @@ public final class TreatyRouter {
             tried.row[Way.CREDIT + i] = credit;
         }
 
-        private void arrive(State s, int i, int arrives) {
+        private void arrive(State s, int i, int arrives, int withheld) {
             tried.row[Way.DUE + i] = 0;
             tried.row[Way.CREDIT + i] = s.row[State.CREDIT + to];
-            tried.hops = i + 1;
-            tried.arrives = arrives;
-            tried.withheld = tried.sum(Way.HELD);
             ways++;
-            int ahead = sparing ? best.withheld - tried.withheld : arrives - best.arrives;
-            if (ways == 1 || ahead > 0 || ahead == 0 && tried.hops < best.hops) {
+            int ahead = sparing ? best.withheld - withheld : arrives - best.arrives;
+            if (ways == 1 || ahead > 0 || ahead == 0 && i + 1 < best.hops) {
                 System.arraycopy(tried.row, 0, best.row, 0, Way.SIZE);
                 best.from = tried.from;
-                best.hops = tried.hops;
-                best.arrives = tried.arrives;
-                best.withheld = tried.withheld;
+                best.hops = i + 1;
+                best.arrives = arrives;
+                best.withheld = withheld;
             }
         }
     }
