@@ -59,11 +59,20 @@ public final class ModelTest {
 
   private static void feedBook() {
     String text = bookText();
-    if (draw.nextInt(6) == 0) text = damaged(text);
+    for (int tries = 0; tries < 40 && !isBook(text); tries++) text = bookText();
+    if (draw.nextInt(12) == 0) text = damaged(text);
     due("end(0)", x.end(0) ? 1 : 0, m.end(0) ? 1 : 0);
     feed(text);
     due("fault(0)", x.fault(0), m.fault(0));
     due("text(0) " + text, x.text(0), m.text(0));
+  }
+
+  private static boolean isBook(String text) {
+    try {
+      return text.length() <= 400 && Model.book(text).links.size() > 2;
+    } catch (Model.Broken e) {
+      return false;
+    }
   }
 
   private static void feedScript() {
@@ -86,28 +95,41 @@ public final class ModelTest {
   /** A BOOK that may be too long, or tell a name twice, but mostly is fine. */
   static String bookText() {
     StringBuilder b = new StringBuilder();
-    int lands = 1 + draw.nextInt(draw.nextInt(8) == 0 ? 7 : 4);
-    int firms = 1 + draw.nextInt(draw.nextInt(8) == 0 ? 9 : 6);
+    int lands = draw.nextInt(4) == 0 ? 1 + draw.nextInt(7) : 2 + draw.nextInt(3);
+    int firms = draw.nextInt(4) == 0 ? 1 + draw.nextInt(9) : 4 + draw.nextInt(4);
     if (draw.nextInt(3) == 0) b.append("year").append(gap()).append(draw.nextInt(101)).append(';');
     for (int i = 0; i < lands; i++) b.append("land ").append((char) ('a' + i)).append(gap()).append(rate()).append(' ').append(rate()).append(' ').append(rate()).append(';');
     for (int i = 0; i < firms; i++) b.append("firm ").append((char) ('p' + i)).append(' ').append((char) ('a' + draw.nextInt(lands))).append(draw.nextInt(12)).append(';');
-    int more = draw.nextInt(draw.nextInt(6) == 0 ? 34 : 20);
-    for (int i = 0; i < more && b.length() < 370; i++) {
+    java.util.Set<String> told = new java.util.HashSet<>();
+    int more = draw.nextInt(6) == 0 ? draw.nextInt(34) : 8 + draw.nextInt(16);
+    for (int i = 0; i < more && b.length() < 375; i++) {
       int d = draw.nextInt(10);
       char f = (char) ('p' + draw.nextInt(firms));
-      char g = (char) ('p' + (f - 'p' + (draw.nextInt(30) == 0 ? 0 : 1) + draw.nextInt(Math.max(1, firms - 1))) % firms);
+      char g = other(f, 'p', firms);
       char k = (char) ('a' + draw.nextInt(lands));
-      char l = (char) ('a' + (k - 'a' + (draw.nextInt(30) == 0 ? 0 : 1) + draw.nextInt(Math.max(1, lands - 1))) % lands);
-      String line;
-      if (d < 4 && firms > 1) line = "owns " + f + " " + g + " " + (draw.nextInt(3) == 0 ? draw.nextInt(101) : 10 + draw.nextInt(40)) + " " + (30 + draw.nextInt(30)) + ";";
-      else if (d < 6 && firms > 1) line = "lends " + f + " " + g + " " + (30 + draw.nextInt(30)) + ";";
-      else if (d < 9 && lands > 1) line = "treaty " + k + " " + l + " " + (30 + draw.nextInt(40)) + " " + rate() + " " + rate() + " " + rate() + " " + draw.nextInt(50) + " " + draw.nextInt(21) + " " + draw.nextInt(12) + " " + draw.nextInt(3) + ";";
-      else if (lands > 1) line = "ends " + k + " " + l + " " + (30 + draw.nextInt(40)) + ";";
-      else continue;
-      b.append(line);
+      char l = other(k, 'a', lands);
+      if (d < 7 && firms > 1 && !told.add((d < 4 ? "o" : "l") + f + g) && draw.nextInt(90) > 0) continue;
+      if (d < 4 && firms > 1) b.append("owns ").append(f).append(' ').append(g).append(' ').append(share()).append(' ').append(30 + draw.nextInt(28)).append(';');
+      else if (d < 7 && firms > 1) b.append("lends ").append(f).append(' ').append(g).append(' ').append(30 + draw.nextInt(28)).append(';');
+      else if (d == 9 && lands > 1 && draw.nextInt(3) == 0) b.append("ends ").append(k).append(' ').append(l).append(' ').append(30 + draw.nextInt(40)).append(';');
+      else if (d > 6 && lands > 1) b.append(treatyText(k, l));
     }
     b.setLength(b.length() - 1);
     return b.toString();
+  }
+
+  /** Seldom the same one. */
+  private static char other(char one, char first, int count) {
+    return (char) (first + (one - first + (draw.nextInt(200) == 0 ? 0 : 1) + draw.nextInt(Math.max(1, count - 1))) % count);
+  }
+
+  private static int share() {
+    return draw.nextInt(3) == 0 ? 1 + draw.nextInt(100) : 15 + draw.nextInt(20);
+  }
+
+  private static String treatyText(char k, char l) {
+    return "treaty " + k + " " + l + " " + (draw.nextInt(3) == 0 ? 45 + draw.nextInt(25) : draw.nextInt(50)) + " " + rate() + " " + rate() + " " + rate()
+        + " " + draw.nextInt(30) + " " + draw.nextInt(18) + " " + draw.nextInt(8) + " " + draw.nextInt(3) + ";";
   }
 
   static String scriptText() {
@@ -171,7 +193,12 @@ public final class ModelTest {
     int g = near(m.now.book == null ? 3 : m.now.book.firms.size());
     int k = near(m.now.book == null ? 3 : m.now.book.lands.size());
     int l = near(m.now.book == null ? 3 : m.now.book.lands.size());
-    if (f == t && draw.nextInt(4) > 0 && m.now.book != null) t = (f + 1) % Math.max(1, m.now.book.firms.size());
+    // Mostly two FIRMS with a WAY between them, so that there is something to answer.
+    for (int tries = 0; tries < 12 && m.loops(s, f, t) < 1 && draw.nextInt(15) > 0; tries++) {
+      s = draw.nextInt(2);
+      f = near(m.now.book == null ? 3 : m.now.book.firms.size());
+      t = near(m.now.book == null ? 3 : m.now.book.firms.size());
+    }
     int a = amount();
     int w;
     switch (draw.nextInt(60)) {

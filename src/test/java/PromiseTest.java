@@ -47,6 +47,7 @@ public final class PromiseTest {
     takeTwiceGross();
     worthOfLinks();
     scripts();
+    fullBook();
     allAndCount();
     images();
     C.finish("PromiseTest");
@@ -335,6 +336,7 @@ public final class PromiseTest {
     C.due("treaty, no such LAND", x.treaty(-1, 1, 80, 0), NONE);
     TreatyRouter y = Check.of("land a 0 0 0;land b 0 0 0;firm p a 0;ends a b 10;treaty b a 10 5 5 5 5 5 5 0");
     C.due("told last, with an end of the same YEAR ahead", y.treaty(0, 1, 10, 1), 5);
+    C.due("treaty of 0", Check.of(BOOK).treaty(2, 1, 0, 7), 1);
   }
 
   private static void hopIs(TreatyRouter x, int sort, int from, int to, int owner, int rate, int article) {
@@ -706,6 +708,7 @@ public final class PromiseTest {
     C.due("AS OF 199", x.asOf(0, 0, 2, 1000, 199, 0), 882);
     C.due("AS OF 200", x.asOf(0, 0, 2, 1000, 200, 0), NONE);
     C.due("AS OF -1", x.asOf(0, 0, 2, 1000, -1, 0), NONE);
+    C.due("AS OF 0", Check.of("land a 0 0 0;firm p a 0;firm q a 0;lends p q 0").asOf(1, 1, 0, 5, 0, 0), 5);
     C.due("AS OF, what 2", x.asOf(0, 0, 2, 1000, 50, 2), NONE);
     C.due("AS OF, AMOUNT 0", x.asOf(0, 0, 2, 0, 50, 0), NONE);
     C.due("the YEAR is as it was", x.all(0), 50);
@@ -825,7 +828,9 @@ public final class PromiseTest {
     C.due("GROSS of 881", x.gross(0, 0, 2, 881), 997);
     C.due("of 998 is", x.best(0, 0, 2, 998, 0), 882);
     C.due("of 997 is", x.best(0, 0, 2, 997, 0), 881);
-    C.due("GROSS of 882000", x.gross(0, 0, 2, 882000) <= 1000000, true);
+    C.due("GROSS of what a million brings", x.gross(0, 0, 2, 882000), 999998);
+    C.due("of one less", x.best(0, 0, 2, 999997, 0), 881999);
+    C.due("GROSS of one more", x.gross(0, 0, 2, 882001), NONE);
     C.due("GROSS of a million", x.gross(0, 0, 2, 1000000), NONE);
     C.due("GROSS of 0", x.gross(0, 0, 2, 0), NONE);
     C.due("GROSS of more", x.gross(0, 0, 2, 1000001), NONE);
@@ -888,6 +893,34 @@ public final class PromiseTest {
     C.due("RUN: all can be", x.run(1, 0), NONE);
     C.due("DO: all", x.perform(1), 2);
     C.due("YEAR", x.all(0), 95);
+    Check.feed(x, "pass 1;pass 1;pass 1;pass 1;pass 1;pass 1;pass 1;pass 1;pass 1;pass 1;pass 1;pass 1");
+    C.due("text(1)", x.text(1), 2);
+    C.due("RUN of twelve", x.run(2, 0), NONE);
+    C.due("DO of twelve", x.perform(2), 12);
+    C.due("YEAR", x.all(0), 107);
+  }
+
+  /** Six LANDS, eight FIRMS, twelve TREATIES: nothing lies behind the last of them. */
+  private static void fullBook() {
+    StringBuilder b = new StringBuilder();
+    for (char c = 'a'; c < 'g'; c++) b.append("land ").append(c).append(" 100 0 0;");
+    for (char c = 'p'; c < 'x'; c++) b.append("firm ").append(c).append(c > 'u' ? " f 9;" : " a 1;");
+    b.append("owns w p 30 0;");
+    for (int i = 0; i < 10; i++) b.append("ends a b 0;");
+    TreatyRouter x = Check.of(b + "treaty a f 0 0 0 0 0 0 50 0;ends b c 0");
+    C.due("FIRMS", x.count(0), 8);
+    C.due("LANDS", x.count(5), 6);
+    C.due("best", x.best(0, 0, 7, 1000, 0), 900);
+    C.due("ARTICLE", x.stop(0, 0, 7, 1000, 0, 2), 2);
+    C.due("HIRE", x.hire(0, 0, 7, 1000, 7), 50);
+    C.due("pay", x.pay(0, 0, 7, 1000), 900);
+    C.due("TAKEN", x.all(2), 100);
+    C.due("GOT", x.all(3), 900);
+    C.due("TREATIES", x.all(5), 1);
+    C.due("most STAFF", x.all(6), 6);
+    C.due("KEY", x.key(0, 0, 7, 1000), 1);
+    C.due("LAPSED", x.lapsed(0, 0, 7, 1000, 5, 0), 900);
+    C.due("years", x.years(40, 7) >= 50, true);
   }
 
   private static void allAndCount() {
