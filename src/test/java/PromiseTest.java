@@ -76,6 +76,7 @@ public final class PromiseTest {
     for (int i = 1; i <= 19; i++) C.due("feed " + i, x.feed(-1, -1, -1, -1, -1), 6 + 20 * i);
     C.due("feed: 386 and 14", x.feed(-1, -1, -1, 0x01010000, 0), 400);
     C.due("feed: 401", x.feed(0, 0, 0, 0, 1), NONE);
+    for (int b = 0; b < 32; b++) C.due("feed: 401, bit " + b, x.feed(0, 0, 1 << b, 0, 0), NONE);
     C.due("feed of zeros at 400", x.feed(0, 0, 0, 0, 0), 400);
     x.end(381);
     C.due("feed: 381 and 20", x.feed(-1, -1, -1, -1, -1), NONE);
@@ -171,6 +172,7 @@ public final class PromiseTest {
     book(lands + "ends b b 1", 44);
     book(lands + "ends b x 1", 44);
     book(lands + "year 99", NONE);
+    book(lands + "year 0", NONE);
     book(lands + "year 100", 42);
     book(lands + "year 1; year 2", 45);
   }
