@@ -17,6 +17,10 @@ final class Edge {
   /** No STATUS is more behind it. */
   static final int NO_STATUS = -1;
 
+  private static final String[] STIRRING = {"fault(0)", "fault(1)", "best(0, 0, 1, 777, 0)", "best(1, 1, 0, 777777, 3)", "spell(1, 0, 1, 5, -1)", "spell(0, 0, 2, 1000, 3)",
+      "asOf(0, 0, 1, 99, 10, 0)", "hire(1, 0, 1, 77, 1)", "soon(0, 0, 1, 5)", "worth(1, 0, 1, 999, 0)", "twice(1, 0, 2, 1000)", "run(0, 1)", "gross(1, 0, 1, 5)", "key(1, 0, 2, 9)",
+      "least(1, 0, 2, 50, 0)", "direct(0, 0, 1, 7)", "hop(1, 0, 1, 0, 0)", "loops(1, 0, 2)", "lapsed(1, 0, 1, 9, 0, 1)"};
+
   private final Check check = new Check();
   private final Map<String, String> sections = new LinkedHashMap<>();
   private final Map<String, boolean[]> named = new LinkedHashMap<>();
@@ -75,17 +79,29 @@ final class Edge {
     check.due(sentence + ": " + call, got, want);
   }
 
+  /** Questions change nothing: what is due is due behind these, too. */
+  private static Used stirred(Given g) {
+    Used u = g.make();
+    for (String call : STIRRING) u.call(call);
+    return u;
+  }
+
   /** One call on an object of its own. */
   void is(Given g, String call, long want) {
     due(g + call, g.make().call(call), want);
+    due(g + "stirred, " + call, stirred(g).call(call), want);
   }
 
   /** Calls and their answers in turn, on one object. */
   void run(Given g, Object... callsAndAnswers) {
-    Used u = g.make();
+    run(g.make(), g + "run: ", callsAndAnswers);
+    run(stirred(g), g + "stirred, run: ", callsAndAnswers);
+  }
+
+  private void run(Used u, String given, Object... callsAndAnswers) {
     for (int i = 0; i + 1 < callsAndAnswers.length; i += 2) {
       String call = (String) callsAndAnswers[i];
-      due(g + "run: " + call, u.call(call), ((Number) callsAndAnswers[i + 1]).longValue());
+      due(given + call, u.call(call), ((Number) callsAndAnswers[i + 1]).longValue());
     }
   }
 

@@ -31,6 +31,7 @@ final class EdgesOfActs {
     statusOfSeveralTheFirst(e);
     statusNotUndone(e);
     statusAsked(e);
+    statusNone(e);
   }
 
   private static void amountIsPaid(Edge e) {
@@ -50,6 +51,7 @@ final class EdgesOfActs {
         "all(2)", 77, "all(3)", 923, "pay(1, 2, 3, 100)", 99, "firm(3, 3)", 1022, "land(0, 3)", 20);
     e.run(g, "pay(1, 0, 1, 1000)", 990, "firm(1, 3)", 990, "firm(1, 2)", 0, "land(0, 3)", 10, "land(1, 3)", 0);
     e.run(g, "pay(1, 0, 3, 1)", 1, "all(2)", 0, "all(3)", 1);
+    e.run(g, "pay(1, 1, 2, 1000)", 970, "land(0, 3)", 0, "land(1, 3)", 30, "firm(2, 3)", 970, "take(1, 1, 2, 1000, 0)", 0, "take(1, 1, 2, 1000, 1)", 30);
     e.run(Given.book("land a 0 1000 0;land b 0 0 0;firm p a 0;firm q b 0;lends q p 0"), "pay(1, 0, 1, 1000000)", 0, "land(0, 3)", 1000000, "firm(1, 3)", 0, "count(3)", 1);
   }
 
@@ -275,6 +277,9 @@ final class EdgesOfActs {
     e.says("Promise 21", "STATUS.");
     e.run(Fixed.busy(), "status(0)", 1, "status(1)", 1, "status(2)", 1, "status(3)", 0);
     for (int what = 0; what < 4; what++) e.is(Given.NEW, "status(" + what + ")", 0);
+  }
+
+  private static void statusNone(Edge e) {
     e.says("Promise 21", "NONE: no such what.");
     e.bounds(Fixed.busy(), "status(#)", 0, 1, 3, 0, NONE);
     e.bounds(Given.NEW, "status(#)", 0, 0, 3, 0, NONE);

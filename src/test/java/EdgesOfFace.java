@@ -7,7 +7,8 @@ final class EdgesOfFace {
   static void all(Edge e) {
     calls512(e);
     whatIsRefused(e);
-    constants(e);
+    constantNone(e);
+    constantHidden(e);
     noBook(e);
     twentyBytesMore(e);
     highestFirst(e);
@@ -24,6 +25,8 @@ final class EdgesOfFace {
     scriptsNumber(e);
     textNone(e);
     allAsked(e);
+    allOfSeveralTheLowest(e);
+    allLaterLinks(e);
     allHidden(e);
     countAsked(e);
     countHidden(e);
@@ -52,10 +55,13 @@ final class EdgesOfFace {
     e.refused(Fixed.busy().times(40, "staff(0, 6)", "staff(0, 5)"), "staff(0, 100)", NONE, 1);
   }
 
-  private static void constants(Edge e) {
+  private static void constantNone(Edge e) {
     e.says("Terms", "The constants: `NONE = -1`: None; refused.");
     e.due("NONE", TreatyRouter.NONE, -1);
     e.is(Given.NEW, "land(0, 0)", -1);
+  }
+
+  private static void constantHidden(Edge e) {
     e.says("Terms", "`HIDDEN = -1000000`: Not told.");
     e.due("HIDDEN", TreatyRouter.HIDDEN, -1000000);
     e.is(Given.NEW, "all(0)", -1000000);
@@ -123,6 +129,15 @@ final class EdgesOfFace {
     e.refused(at399, "feed(257, 0, 0, 0, 0)", NONE);
     e.run(at380.and(all), all, NONE, "end(399)", 1, "feed(1, 0, 0, 0, 0)", 400);
     e.run(Given.NEW.and("tape " + ONE + " ".repeat(377)), "count(2)", 400, "fault(0)", NONE, "text(0)", 1);
+    String full = ONE + " ".repeat(371);
+    e.faultAt(0, full + ";year ", 400);
+    e.faultAt(0, full + " ;year", 400);
+    e.faultAt(0, full + "  ;yea", 397);
+    e.faultAt(0, full + ";year5", NONE);
+    e.faultAt(0, full + "     ;", 400);
+    e.faultAt(1, "pass 1" + " ".repeat(388) + ";pass5", NONE);
+    e.faultAt(1, "pass 1" + " ".repeat(389) + ";pass", 400);
+    e.faultAt(1, "pass 1" + " ".repeat(393) + ";", 400);
   }
 
   private static void firstBytesAlone(Edge e) {
@@ -132,6 +147,9 @@ final class EdgesOfFace {
     e.run(g, "end(1)", 1, "count(2)", 1, "fault(1)", 0);
     e.run(g, "end(0)", 1, "count(2)", 0, "fault(1)", 0, "end(0)", 1);
     e.run(g, "end(4)", 1, "fault(1)", 4, Used.feed(" 9"), 6, "text(1)", 0, "step(0, 0, 1)", 9);
+    e.run(Given.NEW.and("tape year 55"), "end(6)", 1, "fault(0)", 6, "end(4)", 1, "fault(0)", 4, "end(3)", 1, "fault(0)", 0);
+    e.run(Given.NEW.and("tape pass 1;pass 2"), "end(6)", 1, "fault(1)", NONE, "text(1)", 0, "step(0, 1, 0)", HIDDEN);
+    e.run(Given.NEW.and("tape " + ONE + " "), "end(24)", 1, "fault(0)", NONE, "end(23)", 1, "fault(0)", NONE, "end(22)", 1, "fault(0)", 22);
     e.is(Given.NEW, "end(0)", 1);
     e.is(Given.NEW.times(20, "feed(-1, -1, -1, -1, -1)"), "end(400)", 1);
   }
@@ -239,12 +257,21 @@ final class EdgesOfFace {
     e.is(Given.book(six + "ends a b 0"), "all(5)", 0);
     e.is(Given.book(six + "year 5"), "all(4)", 0);
     e.is(Fixed.eightInARing(), "all(4)", 16);
+  }
+
+  private static void allOfSeveralTheLowest(Edge e) {
     e.says("Promise 40", "the FIRM with most STAFF (6), most CREDIT (7) (of several the lowest, both),");
     e.run(Given.book("land a 0 0 0;firm x a 0;firm y a 0;firm z a 0"), "all(6)", 0, "all(7)", 0, "staff(2, 1)", 0, "all(6)", 2, "staff(1, 1)", 0, "all(6)", 1, "staff(2, 99)", 1, "all(6)", 2,
         "staff(0, 99)", 0, "all(6)", 0);
     Given credits = Given.book("land a 0 100 0;land b 0 0 0;firm p a 0;firm q b 0;firm r b 0;firm s b 0;lends q p 0;lends r p 0;lends s q 0;lends s r 0;lends p s 0");
     e.run(credits, "all(7)", 0, "pay(1, 0, 3, 1000)", 900, "all(7)", 1, "lend(3, 1)", 0, "pay(1, 0, 3, 1000)", 900, "firm(1, 2)", 100, "firm(2, 2)", 100, "all(7)", 1, "pay(1, 0, 3, 10)", 9, "all(7)", 2);
     e.is(Fixed.eightInARing().and("staff(7, 1)"), "all(6)", 7);
+    Given full = Given.book("land a 0 100 0;land b 0 0 0;land c 0 0 0;land d 0 0 0;land e 0 0 0;land f 0 0 0;firm p b 1;firm q a 0;firm r a 0;firm s a 0;firm t a 0;firm u a 0;firm v b 0;firm w a 0;lends p w 0;lends v w 0;lends p v 0")
+        .and("pay(1, 7, 0, 1000)", "lend(0, 7)", "pay(1, 7, 0, 1000)");
+    e.run(full, "firm(0, 3)", 1800, "firm(6, 2)", 100, "all(1)", 100, "all(2)", 200, "all(3)", 1800, "all(6)", 0, "all(7)", 6, "undo()", 2, "all(7)", 0, "staff(7, 1)", 0, "all(6)", 0, "all(1)", 0, "all(2)", 100);
+  }
+
+  private static void allLaterLinks(Edge e) {
     e.says("Promise 40", "LINKS that are there in a later YEAR first (8).");
     Given later = Given.book("land a 0 0 0;firm x a 0;firm y a 0;owns x y 5 50;owns y x 5 51;lends x y 99;lends y x 0");
     e.run(later, "all(8)", 2, "pass(1)", 51, "all(8)", 1, "lend(0, 1)", 0, "all(8)", 0);

@@ -30,7 +30,9 @@ final class EdgesOfHistory {
     backIsSoAgain(e);
     noActCanBeUndoneThen(e);
     imageAsked(e);
+    imageNone(e);
     backAsked(e);
+    backNone(e);
   }
 
   /** ACTS that set STAFF of x to 1, 2, .. n. */
@@ -190,6 +192,14 @@ final class EdgesOfHistory {
     e.says(TERMS, "a draw of 8: 0 to 3: draws of 2, of FIRMS, of FIRMS, of 1000 and 1: SORT, FROM, TO, AMOUNT PAID;");
     for (int kind = 0; kind < 4; kind++) for (int sort = 0; sort < 2; sort++) {
       e.run(drawn(PAID, kind, sort, 0, 1, 499), "count(3)", 1, "log(0, 0)", 0, "log(0, 1)", 500, "log(0, 2)", 1, "firm(1, 3)", 500);
+      Given unlike = Given.book("land a 100 200 0;land b 300 400 0;firm x a 0;firm y b 0;owns y x 30 0;lends y x 0;owns x y 30 0;lends x y 0");
+      e.run(unlike.and("years(1, " + seed(PAID, new int[] {kind, sort, 0, 1, 499}) + ")"), "firm(1, 3)", sort == 0 ? 450 : 400, "land(0, 3)", sort == 0 ? 50 : 100);
+      e.run(unlike.and("years(1, " + seed(PAID, new int[] {kind, sort, 1, 0, 499}) + ")"), "firm(0, 3)", sort == 0 ? 350 : 300, "land(1, 3)", sort == 0 ? 150 : 200);
+    }
+    for (int sort = 0; sort < 2; sort++) {
+      Given one = Given.book("land a 0 0 0;firm x a 0;firm y a 0;" + (sort == 0 ? "owns y x 30 0" : "lends y x 0"));
+      e.is(one.and("years(1, " + seed(PAID, new int[] {0, sort, 0, 1, 7}) + ")"), "firm(1, 3)", 8);
+      e.refused(one, "years(1, " + seed(PAID, new int[] {0, 1 - sort, 0, 1, 7}) + ")", 50);
     }
   }
 
@@ -310,6 +320,9 @@ final class EdgesOfHistory {
     e.run(late, "image()", 199, "back()", 199);
     e.is(Given.book(TWO_FIRMS + ";year 0"), "image()", 0);
     e.run(five(), "image()", 53, "count(3)", 5, "count(4)", 5, "undo()", 4);
+  }
+
+  private static void imageNone(Edge e) {
     e.says("Promise 41", "NONE: no BOOK.");
     e.refused(Given.NEW, "image()", NONE);
     e.refused(Given.NEW.and("script pass 1"), "image()", NONE);
@@ -318,6 +331,9 @@ final class EdgesOfHistory {
   private static void backAsked(Edge e) {
     e.says("Promise 42", "BACK: YEAR.");
     e.run(five().and("image()", "pass(20)"), "back()", 53, "all(0)", 53);
+  }
+
+  private static void backNone(Edge e) {
     e.says("Promise 42", "NONE: no IMAGE of this BOOK.");
     e.refused(Given.NEW, "back()", NONE);
     e.refused(five(), "back()", NONE);

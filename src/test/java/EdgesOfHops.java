@@ -4,6 +4,8 @@ final class EdgesOfHops {
   private static final int NONE = Edge.NONE;
   /** LAW of a: 111, 222; y in b has 3 of STAFF, 20 of x since 40, and lends since 40; z is in b, o in c, w in a. */
   private static final String HOP = "land a 111 222 0;land b 333 444 0;land c 0 0 0;firm x a 0;firm y b 3;firm z b 0;firm o c 0;firm w a 0;owns y x 20 40;lends y x 40;";
+  private static final Given NAMES = Given.book("land abcdefgh 0 0 0;land z 0 0 0;firm stuvwxyz z 0;firm q z 0");
+  private static final Given TREATIES = Given.book("land a 0 0 0;land b 0 0 0;land c 0 0 0;firm x a 0;treaty b a 0 11 12 13 14 15 16 2;treaty a b 99 1 2 3 4 5 6 1");
   private static final int Y = 1;
   private static final int Z = 2;
   private static final int O = 3;
@@ -13,11 +15,18 @@ final class EdgesOfHops {
     terms(e);
     articles(e);
     landAsked(e);
+    landNone(e);
     firmAsked(e);
+    firmLinksEitherWay(e);
+    firmThrows(e);
     nameAsked(e);
+    nameNone(e);
     linkAsked(e);
+    linkNone(e);
     treatyAsked(e);
+    treatyNone(e);
     hopAsked(e);
+    hopNone(e);
   }
 
   private static void terms(Edge e) {
@@ -93,12 +102,15 @@ final class EdgesOfHops {
     e.run(owner, "best(0, 0, 1, 1000, 0)", 1000, "best(0, 0, 2, 1000, 0)", 500, "stop(0, 0, 2, 1000, 0, 2)", 3);
   }
 
-  /** RATE and ARTICLE of dividends and of interest from x to y. */
+  /** RATE and ARTICLE of dividends and of interest from x to y; behind other LINKS and TREATIES, too. */
   private static void hops(Edge e, String treaties, int owner, int[] dividends, int[] interest) {
-    Given g = Given.book(HOP + treaties);
-    for (int what = 0; what < 2; what++) {
-      e.is(g, "hop(0, 0, 1, " + owner + ", " + what + ")", dividends[what]);
-      e.is(g, "hop(1, 0, 1, " + owner + ", " + what + ")", interest[what]);
+    String behind = HOP.replace("owns y x", "owns w o 99 9;owns z w 1 99;lends o z 9;owns y x") + "treaty c b 0 91 92 93 94 5 96 1;ends b c 1;ends a c 0;";
+    for (String book : new String[] {HOP, behind}) {
+      Given g = Given.book(book + treaties);
+      for (int what = 0; what < 2; what++) {
+        e.is(g, "hop(0, 0, 1, " + owner + ", " + what + ")", dividends[what]);
+        e.is(g, "hop(1, 0, 1, " + owner + ", " + what + ")", interest[what]);
+      }
     }
   }
 
@@ -230,6 +242,9 @@ final class EdgesOfHops {
   private static void landAsked(Edge e) {
     e.says("Promise 6", "Of a LAND: 0 DIVIDEND, 1 INTEREST, 2 TAX, 3 TAKEN.");
     e.run(Fixed.busy(), "land(0, 0)", 100, "land(0, 1)", 50, "land(0, 2)", 200, "land(0, 3)", 100, "land(1, 3)", 18, "land(2, 0)", 150, "land(2, 3)", 0);
+  }
+
+  private static void landNone(Edge e) {
     e.says("Promise 6", "NONE: no such ones.");
     e.bounds(Fixed.busy(), "land(#, 0)", 0, 100, 2, 150, NONE);
     e.bounds(Fixed.busy(), "land(0, #)", 0, 100, 3, 100, NONE);
@@ -244,9 +259,15 @@ final class EdgesOfHops {
     e.is(Given.book(Fixed.LOANS).and("pay(1, 0, 2, 1000)"), "firm(1, 2)", 100);
     e.is(Given.book("land a 0 0 0;firm x a 0"), "firm(0, 4)", 0);
     for (int firm = 0; firm < 8; firm++) e.is(Fixed.eightInARing(), "firm(" + firm + ", 4)", 4);
+  }
+
+  private static void firmLinksEitherWay(Edge e) {
     e.says("Promise 7", "(either way, those of later YEARS, too).");
     Given later = Given.book("land a 0 0 0;firm x a 0;firm y a 0;firm z a 0;year 0;owns y x 1 99;lends x y 1;owns x z 1 0");
     e.run(later, "firm(0, 4)", 3, "firm(1, 4)", 2, "firm(2, 4)", 1);
+  }
+
+  private static void firmThrows(Edge e) {
     e.says("Promise 7", "NoSuchElementException: no such ones.");
     e.bounds(Fixed.busy(), "firm(#, 1)", 0, 5, 2, 9, Used.THROWS);
     e.bounds(Fixed.busy(), "firm(0, #)", 0, 0, 4, 5, Used.THROWS);
@@ -256,18 +277,20 @@ final class EdgesOfHops {
 
   private static void nameAsked(Edge e) {
     e.says("Promise 8", "Byte i of the NAME of a LAND (sort 0), a FIRM (1).");
-    Given names = Given.book("land abcdefgh 0 0 0;land z 0 0 0;firm stuvwxyz z 0;firm q z 0");
     for (int i = 0; i < 8; i++) {
-      e.is(names, "name(0, 0, " + i + ")", 'a' + i);
-      e.is(names, "name(1, 0, " + i + ")", 's' + i);
+      e.is(NAMES, "name(0, 0, " + i + ")", 'a' + i);
+      e.is(NAMES, "name(1, 0, " + i + ")", 's' + i);
     }
-    e.run(names, "name(0, 1, 0)", (int) 'z', "name(1, 1, 0)", (int) 'q');
+    e.run(NAMES, "name(0, 1, 0)", (int) 'z', "name(1, 1, 0)", (int) 'q');
+  }
+
+  private static void nameNone(Edge e) {
     e.says("Promise 8", "NONE: no such ones.");
-    e.bounds(names, "name(#, 1, 0)", 0, 'z', 1, 'q', NONE);
-    e.bounds(names, "name(0, #, 0)", 0, 'a', 1, 'z', NONE);
-    e.bounds(names, "name(1, #, 0)", 0, 's', 1, 'q', NONE);
-    e.bounds(names, "name(0, 0, #)", 0, 'a', 7, 'h', NONE);
-    e.bounds(names, "name(1, 1, #)", 0, 'q', 0, 'q', NONE);
+    e.bounds(NAMES, "name(#, 1, 0)", 0, 'z', 1, 'q', NONE);
+    e.bounds(NAMES, "name(0, #, 0)", 0, 'a', 1, 'z', NONE);
+    e.bounds(NAMES, "name(1, #, 0)", 0, 's', 1, 'q', NONE);
+    e.bounds(NAMES, "name(0, 0, #)", 0, 'a', 7, 'h', NONE);
+    e.bounds(NAMES, "name(1, 1, #)", 0, 'q', 0, 'q', NONE);
     e.bounds(Fixed.eightInARing(), "name(1, #, 0)", 0, 'p', 7, 'w', NONE);
     e.refused(Given.NEW, "name(0, 0, 0)", NONE);
     e.refused(Given.NEW, "name(1, 0, 0)", NONE);
@@ -277,6 +300,9 @@ final class EdgesOfHops {
     e.says("Promise 9", "Of the k-th LINK: 0 its sort (0 owns, 1 lends), 1, 2 its FIRMS as told, 3 SHARE (0 of lends), 4 SINCE.");
     int[][] links = {{0, 1, 0, 30, 10}, {0, 2, 1, 100, 40}, {0, 2, 0, 10, 20}, {1, 2, 0, 0, 45}, {0, 0, 1, 40, 51}, {1, 1, 0, 0, 51}};
     for (int k = 0; k < 6; k++) for (int what = 0; what < 5; what++) e.is(Fixed.busy(), "link(" + k + ", " + what + ")", links[k][what]);
+  }
+
+  private static void linkNone(Edge e) {
     e.says("Promise 9", "NONE: no such ones.");
     e.bounds(Fixed.busy(), "link(#, 3)", 0, 30, 5, 0, NONE);
     e.bounds(Fixed.busy(), "link(0, #)", 0, 0, 4, 10, NONE);
@@ -287,17 +313,19 @@ final class EdgesOfHops {
 
   private static void treatyAsked(Edge e) {
     e.says("Promise 10", "The TREATY of two LANDS in a YEAR (0 .. 199): 0 FROM, 1 LOW, 2 HIGH, 3 INTEREST, 4 SHARE, 5 YEARS, 6 STAFF, 7 OWNER.");
-    Given g = Given.book("land a 0 0 0;land b 0 0 0;land c 0 0 0;firm x a 0;treaty b a 0 11 12 13 14 15 16 2;treaty a b 99 1 2 3 4 5 6 1");
     int[] early = {0, 11, 12, 13, 14, 15, 16, 2};
     int[] late = {99, 1, 2, 3, 4, 5, 6, 1};
     for (int what = 0; what < 8; what++) {
-      e.bounds(g, "treaty(0, 1, #, " + what + ")", 0, early[what], 199, late[what], NONE);
-      e.is(g, "treaty(1, 0, 98, " + what + ")", early[what]);
-      e.is(g, "treaty(1, 0, 99, " + what + ")", late[what]);
+      e.bounds(TREATIES, "treaty(0, 1, #, " + what + ")", 0, early[what], 199, late[what], NONE);
+      e.is(TREATIES, "treaty(1, 0, 98, " + what + ")", early[what]);
+      e.is(TREATIES, "treaty(1, 0, 99, " + what + ")", late[what]);
     }
+  }
+
+  private static void treatyNone(Edge e) {
     e.says("Promise 10", "NONE: none, no such ones.");
-    e.refused(g, "treaty(0, 2, 50, 0)", NONE);
-    e.refused(g, "treaty(0, 0, 50, 0)", NONE);
+    e.refused(TREATIES, "treaty(0, 2, 50, 0)", NONE);
+    e.refused(TREATIES, "treaty(0, 0, 50, 0)", NONE);
     e.refused(Given.book("land a 0 0 0;land b 0 0 0;firm x a 0;ends b a 0"), "treaty(0, 1, 50, 0)", NONE);
     e.run(Fixed.busy(), "treaty(0, 2, 50, 4)", 25, "treaty(2, 1, 50, 4)", 0, "treaty(1, 0, 50, 4)", 10);
     for (int wrong : new int[] {-1, 3, Edge.MIN, Edge.MAX}) {
@@ -305,7 +333,7 @@ final class EdgesOfHops {
       e.refused(Fixed.busy(), "treaty(0, " + wrong + ", 50, 4)", NONE);
       e.refused(Fixed.busy(), "treaty(" + wrong + ", " + wrong + ", 50, 4)", NONE);
     }
-    e.bounds(g, "treaty(0, 1, 99, #)", 0, 99, 7, 1, NONE);
+    e.bounds(TREATIES, "treaty(0, 1, 99, #)", 0, 99, 7, 1, NONE);
     e.refused(Given.NEW, "treaty(0, 1, 0, 0)", NONE);
   }
 
@@ -315,6 +343,9 @@ final class EdgesOfHops {
         "hop(0, 1, 2, 2, 0)", 20, "hop(0, 1, 2, 2, 1)", 0, "hop(0, 1, 2, 0, 0)", 0, "hop(0, 1, 2, 0, 1)", 3, "hop(1, 0, 2, 2, 0)", 30);
     Given soon = Given.book(HOP + "treaty a b 51 5 6 7 0 0 0 0");
     e.run(soon, "hop(0, 0, 1, 1, 0)", 111, "pass(1)", 51, "hop(0, 0, 1, 1, 0)", 5);
+  }
+
+  private static void hopNone(Edge e) {
     e.says("Promise 11", "NONE: no such LINK now, no such ones.");
     Given g = Fixed.busy();
     e.refused(g, "hop(1, 0, 2, 3, 0)", NONE);

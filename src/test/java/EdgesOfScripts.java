@@ -169,6 +169,11 @@ final class EdgesOfScripts {
         "own 0 3 5", "own 0 1 101", "own 1 1 5", "own 0 1 0", "lend 3 0", "lend 0 0"}) {
       e.refused(loans(step), "perform(0)", 0);
     }
+    Given full = Fixed.eightInARing();
+    e.refused(full.and("script own 0 4 5"), "perform(0)", 0);
+    e.refused(full.and("script lend 0 4"), "perform(0)", 0);
+    e.run(full.and("script own 1 0 0;own 0 4 5;lend 0 4"), "run(0, 0)", 2, "perform(0)", 2, "count(6)", 16, "status(3)", 0);
+    e.run(full.and("script pay 0 0 1 9999;pay 1 0 5 1;pay 1 0 6 1"), "run(0, 0)", 2, "perform(0)", 2, "all(3)", 10000, "status(2)", 0);
   }
 
   private static void performAsked(Edge e) {

@@ -22,8 +22,11 @@ final class EdgesOfWays {
     textOfRates(e);
     textOfArticles(e);
     bestAsked(e);
+    bestNone(e);
     stopAsked(e);
+    stopNone(e);
     spellAsked(e);
+    spellNone(e);
   }
 
   /** x pays y in another LAND, at a RATE of its law. */
@@ -90,8 +93,15 @@ final class EdgesOfWays {
     return Given.book("land a 100 300 0;land b 0 0 200;firm p a 0;firm q b 0;firm r b 0;owns q p " + share + " 0;owns r q 1 0;lends q p 0;lends r q 0");
   }
 
+  /** The same, behind other LINKS. */
+  private static Given ownedLater(int share) {
+    return Given.book("land a 100 300 0;land b 0 0 200;firm p a 0;firm q b 0;firm r b 0;firm s b 0;owns s r " + (share < 25 ? 99 : 1) + " 0;lends s r 0;owns r q 1 0;owns q p " + share + " 0;lends q p 0;lends r q 0");
+  }
+
   private static void shareOf25(Edge e) {
     e.says(TERMS, "of dividends with a SHARE of 25 or more in the one it came from:");
+    e.run(ownedLater(24), "best(0, 0, 2, 1000, 3)", 100, "best(0, 0, 2, 1000, 0)", 800, "best(1, 0, 2, 1000, 3)", 0);
+    e.run(ownedLater(25), "best(0, 0, 2, 1000, 3)", 0, "best(0, 0, 2, 1000, 0)", 900, "pay(1, 0, 2, 1000)", 700, "firm(1, 2)", 100);
     e.run(owned(24), "best(0, 0, 2, 1000, 3)", 100, "best(0, 0, 2, 1000, 0)", 800);
     e.run(owned(25), "best(0, 0, 2, 1000, 3)", 0, "best(0, 0, 2, 1000, 0)", 900);
     e.run(owned(26), "best(0, 0, 2, 1000, 3)", 0);
@@ -153,6 +163,9 @@ final class EdgesOfWays {
 
   private static void paysOn(Edge e) {
     e.says(TERMS, "It pays on what came, less WITHHELD, less DUE that was not set off.");
+    Given five = Given.book("land a 0 0 100;land b 0 0 10;firm p a 0;firm q a 0;firm r b 0;firm s a 0;firm t b 0;firm u a 0;lends q p 0;lends r q 0;lends s r 0;lends t s 0;lends u t 0");
+    e.run(five, "stop(1, 0, 5, 1000, 0, 3)", 1000, "stop(1, 0, 5, 1000, 1, 3)", 900, "stop(1, 0, 5, 1000, 2, 3)", 891, "stop(1, 0, 5, 1000, 3, 3)", 802, "stop(1, 0, 5, 1000, 4, 3)", 794,
+        "best(1, 0, 5, 1000, 0)", 794, "best(1, 0, 5, 1000, 3)", 206, "take(1, 0, 5, 1000, 0)", 189, "take(1, 0, 5, 1000, 1)", 17, "pay(1, 0, 5, 1000)", 794, "land(0, 3)", 189, "land(1, 3)", 17);
     e.run(taxed(100, 200), "stop(1, 0, 2, 1000, 0, 3)", 1000, "stop(1, 0, 2, 1000, 0, 4)", 100, "stop(1, 0, 2, 1000, 1, 3)", 800);
     e.run(taxed(300, 200), "stop(1, 0, 2, 1000, 1, 3)", 700);
     e.run(taxed(0, 1000), "stop(1, 0, 2, 1000, 1, 3)", 0, "best(1, 0, 2, 1000, 0)", 0, "best(1, 0, 2, 1000, 1)", 2);
@@ -161,6 +174,12 @@ final class EdgesOfWays {
 
   private static void theEndIsNotTaxed(Edge e) {
     e.says(TERMS, "What ARRIVES at the end is not taxed.");
+    Given longer = Given.book("land a 0 100 0;land b 0 0 500;land c 0 0 0;firm p a 0;firm q b 0;firm r c 0;firm s c 0;lends q p 0;lends r q 0;lends s r 0;lends s p 0;lends r p 0");
+    e.run(longer, "best(1, 0, 3, 1000, 1)", 1, "best(1, 0, 3, 1000, 3)", 0, "take(1, 0, 3, 1000, 0)", 100, "take(1, 0, 3, 1000, 1)", 0, "take(1, 0, 3, 1000, 2)", 0,
+        "pay(1, 0, 3, 1000)", 900, "firm(3, 2)", 0, "all(1)", 0, "pay(1, 0, 2, 1000)", 900, "firm(2, 2)", 0, "pay(1, 0, 1, 1000)", 900, "firm(1, 2)", 0, "land(1, 3)", 0);
+    Given tried = Given.book("land a 0 100 0;land b 0 0 500;land c 0 0 300;firm p a 0;firm q b 0;firm r c 0;firm s c 0;lends q p 0;lends r q 0;lends s r 0;lends s p 0");
+    e.run(tried, "best(1, 0, 3, 1000, 1)", 1, "best(1, 0, 3, 1000, 3)", 0, "take(1, 0, 3, 1000, 2)", 0, "without(1, 0, 3, 1000, 1)", 900);
+    e.run(taxed(300, 200), "pay(1, 0, 2, 1000)", 700, "firm(1, 2)", 100, "pay(1, 0, 1, 1000)", 700, "firm(1, 2)", 100, "firm(1, 3)", 700);
     Given g = Given.book("land a 0 100 1000;land b 0 0 1000;firm p a 0;firm q b 0;lends q p 0");
     e.run(g, "best(1, 0, 1, 1000, 0)", 900, "best(1, 0, 1, 1000, 3)", 0, "pay(1, 0, 1, 1000)", 900, "firm(1, 2)", 0, "firm(1, 3)", 900, "land(1, 3)", 0, "land(0, 3)", 100);
   }
@@ -197,6 +216,8 @@ final class EdgesOfWays {
     e.spelled(Given.book(Fixed.BOOK), "0, 0, 2, 1", "x >12%!4 z");
     e.spelled(Given.book(Fixed.BOOK), "0, 0, 2, 1000000", "x >10%!2 y >2% z");
     e.spelled(Fixed.eightInARing(), "1, 0, 5, 1", "p >0% q >0% r >0% s >0% t >0% u");
+    e.spelled(Given.book(Fixed.BOOK), "0, 1, 2, 1000", "y >2% z");
+    e.spelled(Fixed.eightInARing(), "0, 7, 1, 1", "w >0% p >0% q");
     e.refused(Given.book(Fixed.BOOK), "spell(0, 0, 2, 0, -1)", NONE);
     e.refused(Given.book(Fixed.BOOK), "spell(0, 0, 2, 1000001, -1)", NONE);
   }
@@ -227,6 +248,9 @@ final class EdgesOfWays {
     e.run(Given.book(Fixed.BOOK), "best(0, 0, 2, 1000, 0)", 882, "best(0, 0, 2, 1000, 1)", 2, "best(0, 0, 2, 1000, 2)", 118, "best(0, 0, 2, 1000, 3)", 0);
     Given two = Given.book("land a 0 10 20;land b 0 30 40;firm p a 0;firm q b 0;firm r a 0;firm s b 0;lends q p 0;lends r q 0;lends s r 0");
     e.run(two, "best(1, 0, 3, 1000, 0)", 923, "best(1, 0, 3, 1000, 1)", 3, "best(1, 0, 3, 1000, 2)", 47, "best(1, 0, 3, 1000, 3)", 30);
+  }
+
+  private static void bestNone(Edge e) {
     e.says("Promise 12", "NONE: no WAY, no such ones, both are one, out of bounds.");
     AsBest.refusals(e, "best(%d, %d, %d, %d, 0)");
     e.bounds(Fixed.busy(), "best(0, 0, 2, 1000, #)", 0, 882, 3, 0, NONE);
@@ -238,6 +262,9 @@ final class EdgesOfWays {
     e.says("Promise 13", "Of the BEST WAY's i-th HOP: to which FIRM (0), RATE (1), ARTICLE (2), what is paid by it (3), WITHHELD (4).");
     int[][] due = {{1, 100, 2, 1000, 100}, {2, 20, 0, 900, 18}};
     for (int i = 0; i < 2; i++) for (int what = 0; what < 5; what++) e.is(Given.book(Fixed.BOOK), "stop(0, 0, 2, 1000, " + i + ", " + what + ")", due[i][what]);
+  }
+
+  private static void stopNone(Edge e) {
     e.says("Promise 13", "NONE: no such one, no WAY, as best().");
     AsBest.refusals(e, "stop(%d, %d, %d, %d, 0, 0)");
     e.bounds(Fixed.busy(), "stop(0, 0, 2, 1000, #, 0)", 0, 1, 1, 2, NONE);
@@ -249,7 +276,11 @@ final class EdgesOfWays {
 
   private static void spellAsked(Edge e) {
     e.says("Promise 14", "Byte i of TEXT (i NONE: how many).");
+    e.run(Given.book(Fixed.BOOK), "spell(0, 0, 2, 1000, -1)", 16, "spell(0, 0, 2, 1000, -1)", 16, "spell(0, 0, 2, 1000, 16)", NONE, "spell(1, 0, 2, 1000, -1)", 7, "spell(1, 0, 2, 1000, 7)", NONE, "spell(1, 0, 2, 1000, 4)", (int) '%');
     e.run(Given.book(Fixed.BOOK), "spell(0, 0, 2, 1000, -1)", 16, "spell(0, 0, 2, 1000, 0)", (int) 'x', "spell(0, 0, 2, 1000, 1)", (int) ' ', "spell(0, 0, 2, 1000, 2)", (int) '>', "spell(0, 0, 2, 1000, 15)", (int) 'z');
+  }
+
+  private static void spellNone(Edge e) {
     e.says("Promise 14", "NONE: no such one, no WAY, as best().");
     AsBest.refusals(e, "spell(%d, %d, %d, %d, -1)");
     AsBest.refusals(e, "spell(%d, %d, %d, %d, 0)");
